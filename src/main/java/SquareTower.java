@@ -356,7 +356,7 @@ public final class SquareTower {
                 starts[n] = terms;
                 for (int a = 0; a <= n; a++) {
                     for (int b = 0; a + second * b <= n; b++) {
-                        int c = third(n - a - second * b, third);
+                        int c = share(n - a - second * b, third);
                         boolean fits = c >= 0 && (!doubling || (a >= 2 * b && b >= 2 * c));
                         if (fits && terms < ALL_TERMS) {
                             numbers[terms * NUMBERS] = a;
@@ -370,7 +370,7 @@ public final class SquareTower {
             starts[TOP + 1] = terms;
         }
 
-        private static int third(int rest, int weight) {
+        private static int share(int rest, int weight) {
             return weight > 0 && rest % weight == 0 ? rest / weight : -1;
         }
 
@@ -713,14 +713,13 @@ public final class SquareTower {
             }
         }
 
-        /** Up to 31 bits of a row from a place on. */
-        int bits(int row, int place, int width) {
-            int shift = place & 63;
-            long bits = word(row, place >> 6) >>> shift;
-            if (shift + width > 64) {
-                bits |= word(row, (place >> 6) + 1) << (64 - shift);
-            }
-            return (int) (bits & ((1L << width) - 1));
+        int bit(int row, int place) {
+            return (int) (word(row, place >> 6) >>> (place & 63) & 1);
+        }
+
+        /** A row's places 0 .. 30, as one number. */
+        int firstBits(int row) {
+            return (int) (word(row, 0) & 0x7fffffffL);
         }
 
         /** Bits from a place on are added by twos. */
@@ -905,7 +904,7 @@ public final class SquareTower {
             for (int g = 0; g < lower.generators(); g++) {
                 place += lower.width(g, top);
                 if (lower.degreeOf(g) == t) {
-                    row |= goals.bits(f, place - 1, 1) << seen;
+                    row |= goals.bit(f, place - 1) << seen;
                     seen++;
                 }
             }
@@ -976,7 +975,7 @@ public final class SquareTower {
                     if (lower != null) {
                         putProduct(row, start + k, floor.goals(), g);
                     } else {
-                        values.flip(row, 0, applyChain(start + k, floor.goals().bits(g, 0, ELEMENTS)));
+                        values.flip(row, 0, applyChain(start + k, floor.goals().firstBits(g)));
                     }
                     keepOrDrop(row, nothing);
                     place++;

@@ -90,7 +90,17 @@ public final class FaceTest {
             Check.holds(c.getName() + " has twenty fields at most", own <= 20);
             for (Method m : c.getDeclaredMethods()) {
                 Check.holds(m.getName() + " has seven parameters at most", m.getParameterCount() <= 7);
+                Check.holds(m.getName() + " is no name of the face", !isOfFace(m.getName()));
             }
         }
+    }
+
+    private static boolean isOfFace(String name) {
+        for (String method : METHODS) {
+            if (method.startsWith(name + "(")) {
+                return true;
+            }
+        }
+        return false;
     }
 }
