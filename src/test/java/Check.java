@@ -3,8 +3,15 @@ final class Check {
     private static final int MOST_SHOWN = 40;
     private static long asked = 0;
     private static long wrong = 0;
+    private static String test = "";
 
     private Check() {
+    }
+
+    /** What is asked from now on is shown as this test's: how much has been asked before. */
+    static long begin(String name) {
+        test = name;
+        return asked;
     }
 
     static void due(String call, long got, long want) {
@@ -12,7 +19,7 @@ final class Check {
         if (got != want) {
             wrong++;
             if (wrong <= MOST_SHOWN) {
-                System.out.println(call + " answered " + got + ", due is " + want);
+                System.out.println(test + call + " answered " + got + ", due is " + want);
             }
         }
     }
@@ -21,8 +28,8 @@ final class Check {
         due(what, fact ? 1 : 0, 1);
     }
 
-    static void finish(String test) {
-        System.out.println(test + ": " + asked + " answers, " + wrong + " not as due");
+    static void finish(String name) {
+        System.out.println(name + ": " + asked + " answers, " + wrong + " not as due");
         if (wrong != 0 || asked == 0) {
             System.exit(1);
         }
