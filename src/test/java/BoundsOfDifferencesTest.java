@@ -286,6 +286,39 @@ public final class BoundsOfDifferencesTest {
         Check.due("page(5, 4, 4)", x.page(5, 4, 4), 2);
     }
 
+    @Sentence(promise = 18, under = Sentences.TERMS, says = "from there and to there.")
+    static void p18_onlyAtTheTwoPlaces() {
+        int told = 0;
+        for (int[] degrees : new int[][] {{0, 1}, {0, 1, 2, 3}, {0, 3}}) {
+            for (int r = 2; r <= 4; r++) {
+                for (int s = 0; s + r <= 5; s++) {
+                    for (int t = 0; t + r - 1 <= 14; t++) {
+                        SquareTower x = States.ofElements(degrees);
+                        if (x.differ(r, s, t, 1) == 1) {
+                            told++;
+                            oneLess(x, r, s, t);
+                        }
+                    }
+                }
+            }
+        }
+        Check.holds("many were told: " + told, told > 40);
+    }
+
+    /** Behind one DIFFERENCE of rank 1 all pages are as LIVE, but for the two places from the next page on. */
+    private static void oneLess(SquareTower x, int r, int s, int t) {
+        for (int u = 0; u <= 5; u++) {
+            for (int v = 0; v <= 14; v++) {
+                int live = x.live(u, v);
+                boolean there = u == s && v == t || u == s + r && v == t + r - 1;
+                for (int page = 2; page <= 5; page++) {
+                    Check.due(Numbers.call("differ", r, s, t, 1) + ", " + Numbers.call("page", page, u, v),
+                            x.page(page, u, v), there && page > r ? live - 1 : live);
+                }
+            }
+        }
+    }
+
     @Sentence(promise = 18, says = "BAD;")
     static void p18_badIs_r_outside2To5() {
         for (int r : Numbers.from(2, 5)) {

@@ -7,6 +7,10 @@ public final class BoundsOfTermsTest {
             NONE = SquareTower.NONE;
     private static final int POINT = 0, LINES = 1, PAIRS = 2;
     private static final int CALLS = 512;
+    private static final String THE_PRODUCT = "THE PRODUCT of r and s: over all tables x(i, j), i, j 0 .. 4 "
+            + "(x(0, 0) left out) of numbers 0 and above with r(i) = the sum over j of 2^j x(i, j), s(j) = the sum over "
+            + "i of x(i, j) (i, j from 1 on): the ROW whose n-th number is the sum of x(i, j) with i + j = n, if in each "
+            + "of these sums no two numbers have a bit in common (else it is not there).";
 
     public static void main(String[] args) {
         Sentences.run(BoundsOfTermsTest.class);
@@ -181,6 +185,9 @@ public final class BoundsOfTermsTest {
         sumIs(new SquareTower(), 0, "the empty CHAIN", List.of(new int[] {NONE, NONE}));
         sumIs(States.ofChain(0), 0, "S(0)", List.of(new int[] {NONE, NONE}));
         sumIs(States.ofChain(0, 9, 0, 4, 0), 0, "zeros among", List.of(new int[] {9, 4, NONE, NONE}));
+        sumIs(States.ofChain(0, 10, 0, 4, 0, 0), 0, "zeros among, degree 14", List.of(new int[] {10, 4, NONE, NONE}));
+        sumIs(States.ofChain(0, 14), 0, "S(0) ahead of S(14)", List.of(new int[] {14, NONE, NONE}));
+        sumIs(States.ofChain(14, 0), 0, "S(0) behind S(14)", List.of(new int[] {14, NONE, NONE}));
         for (int a = 1; a <= 14; a++) {
             for (int b = 1; a + b <= 14; b++) {
                 for (int c = 1; a + b + c <= 14; c++) {
@@ -261,10 +268,7 @@ public final class BoundsOfTermsTest {
                 new int[] {4, 1, 0, 0}, new int[] {7, 0, 0, 0}));
     }
 
-    @Sentence(promise = 5, under = Sentences.TERMS, says = "THE PRODUCT of r and s: over all tables x(i, j), i, j 0 .. 4 "
-            + "(x(0, 0) left out) of numbers 0 and above with r(i) = the sum over j of 2^j x(i, j), s(j) = the sum over "
-            + "i of x(i, j) (i, j from 1 on): the ROW whose n-th number is the sum of x(i, j) with i + j = n, if in each "
-            + "of these sums no two numbers have a bit in common (else it is not there).")
+    @Sentence(promise = 5, under = Sentences.TERMS, says = THE_PRODUCT)
     static void p05_noBitInCommon() {
         sumIs(States.ofChain(1, 1), 1, "1 and 1", List.of());
         sumIs(States.ofChain(1, 2), 1, "1 and 2", List.of(new int[] {3, 0, 0, 0}));
@@ -280,6 +284,21 @@ public final class BoundsOfTermsTest {
                 }
                 sumIs(States.ofChain(a, b), 1, "S(" + a + ") S(" + b + ")", due);
             }
+        }
+    }
+
+    /** S(i) times the ROWS (0, 0, 1), (1, 2), (4, 1), (7) of S(4) S(2) S(1), up to the degree 14. */
+    @Sentence(promise = 5, under = Sentences.TERMS, says = THE_PRODUCT)
+    static void p05_upToThirdNumbers() {
+        sumIs(States.ofChain(1, 4, 2, 1), 1, "i 1", List.of(new int[] {1, 0, 1, 0}, new int[] {5, 1, 0, 0}));
+        sumIs(States.ofChain(2, 4, 2, 1), 1, "i 2, where (6, 1) is there twice",
+                List.of(new int[] {0, 3, 0, 0}, new int[] {2, 0, 1, 0}, new int[] {3, 2, 0, 0}));
+        for (int i = 0; i <= 7; i++) {
+            List<int[]> due = new ArrayList<>();
+            for (List<Integer> row : Model.ModelWords.rows(List.of(i, 4, 2, 1))) {
+                due.add(new int[] {row.get(0), row.get(1), row.get(2), row.get(3)});
+            }
+            sumIs(States.ofChain(i, 4, 2, 1), 1, "i " + i, due);
         }
     }
 
@@ -480,5 +499,27 @@ public final class BoundsOfTermsTest {
             Check.due("no f", x.joins(i, 0, 0), 0);
             Check.due("SOUND", x.fault(0), NONE);
         }
+    }
+
+    /** Over these ELEMENTS two f, of which each has S(2) g together with something that the other one has not. */
+    @Sentence(promise = 15, under = Sentences.TERMS, says = "its RANK by twos")
+    static void p15_twoOfWhichOneCounts() {
+        SquareTower x = States.ofElements(0, 1, 1, 2, 2, 2, 3, 3, 3);
+        x.act(1, 0, 1 << 1);
+        x.act(2, 0, 1 << 3);
+        x.act(3, 0, 1 << 6);
+        x.act(1, 3, 1 << 6);
+        x.act(2, 1, 1 << 7);
+        x.act(2, 2, 1 << 8);
+        x.act(1, 4, 1 << 6 | 1 << 8);
+        x.act(1, 5, 1 << 7 | 1 << 8);
+        Check.due("SOUND", x.fault(0), NONE);
+        Check.due("one g, live(0, 1)", x.live(0, 1), 1);
+        Check.due("two f, live(1, 3)", x.live(1, 3), 2);
+        Check.due("joins(1, 0, 1)", x.joins(1, 0, 1), 1);
+        x.act(1, 4, 1 << 6);
+        x.act(1, 5, 1 << 7);
+        Check.due("neither of two has it, live(1, 3)", x.live(1, 3), 2);
+        Check.due("neither of two has it, joins(1, 0, 1)", x.joins(1, 0, 1), 0);
     }
 }

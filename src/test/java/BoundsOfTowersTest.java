@@ -35,6 +35,26 @@ public final class BoundsOfTowersTest {
                 States.ofElements(0, 0, 0, 0, 0, 0, 0, 0, 0, 0, 0, 0).live(5, 14), 12);
     }
 
+    /** The largest towers that there are: twelve ELEMENTS of degree 0. */
+    @Sentence(promise = 14, under = Sentences.TERMS, says = "ELEMENTS (12 at most)")
+    static void p14_elevenAndTwelveElements() {
+        SquareTower one = point(0);
+        for (int n = 11; n <= 12; n++) {
+            SquareTower x = new SquareTower();
+            for (int e = 0; e < n; e++) {
+                x.element(0);
+            }
+            for (int s = 0; s <= 5; s++) {
+                for (int t = 14; t >= 0; t--) {
+                    Check.due(n + " POINTS, " + Numbers.call("live", s, t), x.live(s, t), n * one.live(s, t));
+                }
+            }
+            for (int t = 0; t <= 14; t++) {
+                Check.due(n + " POINTS, " + Numbers.call("balance", t), x.balance(t), n * one.balance(t));
+            }
+        }
+    }
+
     @Sentence(promise = 14, says = "BAD;")
     static void p14_badIs_s_outside0To5() {
         for (int s : Numbers.from(0, 5)) {

@@ -33,8 +33,8 @@ public final class DifferencesTest {
     }
 
     private static void pagesWithoutDifferences() {
-        SquareTower x = points(2, 3);
         for (int r = 2; r <= 5; r++) {
+            SquareTower x = points(2, 3);
             for (int s = 0; s <= 5; s++) {
                 for (int t = 0; t <= 14; t++) {
                     Check.due("page(" + r + ", " + s + ", " + t + ")", x.page(r, s, t), x.live(s, t));

@@ -111,9 +111,9 @@ public final class SpacesTest {
     }
 
     private static void lines() {
-        SquareTower x = new SquareTower();
         for (int m = 1; m <= 12; m++) {
             for (int n = m; n <= 12; n++) {
+                SquareTower x = new SquareTower();
                 Check.due("LINES " + m + " " + n, x.space(1, m, n), n - m + 1);
                 Check.due("SOUND", x.fault(0), NONE);
                 checkSpread(x, m, n, 1);
@@ -122,9 +122,9 @@ public final class SpacesTest {
     }
 
     private static void pairs() {
-        SquareTower x = new SquareTower();
         for (int m = 0; m <= 6; m++) {
             for (int n = m; n <= 6; n++) {
+                SquareTower x = new SquareTower();
                 Check.due("PAIRS " + m + " " + n, x.space(2, m, n), n - m + 1);
                 Check.due("SOUND", x.fault(0), NONE);
                 checkSpread(x, m, n, 2);
