@@ -1000,13 +1000,13 @@ public final class SquareTower {
 
         /** A CHAIN times what a generator goes to, in the places that are listed. */
         private void putProduct(int row, int chain, BitRows goals, int generator) {
-            for (int from = 0; from < chainAt.length && from < targetAt.length; from++) {
-                int place = goals.next(generator, from);
+            int place = -1;
+            for (int turn = 0; turn < chainAt.length; turn++) {
+                place = goals.next(generator, place + 1);
                 if (place < 0 || place >= chainAt.length || place >= targetAt.length) {
                     return;
                 }
                 values.flip(row, targetAt[place], squares.product(chain, chainAt[place]));
-                from = place;
             }
         }
 
